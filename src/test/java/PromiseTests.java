@@ -282,6 +282,51 @@ public final class PromiseTests {
         due("third debtor", bank.lot(2, 0), 3);
     }
 
+    /** The pupil 0 is a guarantor, a debtor and a link like any other one. */
+    private static void pupilZero() {
+        FavourRings bank = bankOf(3);
+        bank.set(0, 1);
+        bank.set(5, 1);
+        bank.lend(1, 2, 0, 1);
+        bank.weeks(1);
+        due("spoiled, no guarantor", bank.why(1, 1), 2);
+        bank.guarantee(1, 0);
+        due("spoiled, guarantor 0", bank.why(1, 1), 0);
+        due("count(11)", bank.count(11), 5);
+        bank.lend(1, 2, 0, 1);
+        due("0 takes over", bank.weeks(1), 0);
+        due("debtor 0", bank.lot(0, 0), 0);
+        due("one favour owed by 0", bank.deepest(0), 0);
+        due("mean of one favour", bank.mean(), 0);
+        bank.lend(2, 1, 0, 1);
+        due("chain from 0", bank.chain(0, 1, 0), 2);
+        bank.lend(1, 0, 0, 1);
+        due("chain over 0", bank.chain(1, 2, 0), 2);
+        due("ring from 0", bank.ring(0, 0), 0);
+        due("cleared", bank.clear(0), 3);
+    }
+
+    /** A lot has nothing of the one that had its place before. */
+    private static void placesUsedAgain() {
+        FavourRings bank = bankOf(3);
+        bank.guarantee(0, 2);
+        bank.lend(0, 1, 0, 2);
+        bank.weeks(5);
+        bank.fulfil(2, 1, 0, 2);
+        due("no lots", bank.count(2), 0);
+        bank.lend(0, 1, 0, 1);
+        due("age", bank.lot(0, 4), 0);
+        due("taken over", bank.lot(0, 5), 0);
+        bank.weeks(4);
+        bank.lend(0, 1, 3, 1);
+        bank.lend(0, 1, 3, 3);
+        bank.fulfil(2, 1, 0, 1);
+        due("the next one's many", bank.lot(0, 3), 1);
+        due("the next one was not taken over", bank.lot(0, 5), 0);
+        due("no third lot", bank.lot(2, 3), NOT_FOUND);
+        due("what is owed", bank.count(3), 4);
+    }
+
     private static void holidays() {
         FavourRings bank = bankOf(2);
         bank.lend(0, 1, 0, 2);
@@ -938,7 +983,7 @@ public final class PromiseTests {
         due("nothing done", bank.count(4), 0);
     }
 
-    private static void twenty() {
+    private static void thirtyOrders() {
         FavourRings bank = bankOf(2);
         StringBuilder text = new StringBuilder();
         for (int i = 0; i < 30; i++) {
@@ -962,6 +1007,8 @@ public final class PromiseTests {
         weekLimit();
         takingOver();
         takenOverKeepsItsPlace();
+        pupilZero();
+        placesUsedAgain();
         holidays();
         clearing();
         clearingTakesTheOldest();
@@ -988,7 +1035,7 @@ public final class PromiseTests {
         faultsOfState();
         faultsOfLimits();
         playing();
-        twenty();
+        thirtyOrders();
         System.out.println(wrong == 0 ? asked + " answers are as due" : wrong + " answers are not as due");
         if (wrong != 0) {
             System.exit(1);
