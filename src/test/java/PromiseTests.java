@@ -1,61 +1,13 @@
 /** Each promise by hand: ordinary inputs, the edges that the document names, wrong inputs. */
-public final class PromiseTests {
-    private static final int INVALID = -1000001;
-    private static final int NOT_POSSIBLE = -1000002;
-    private static final int LIMIT = -1000003;
-    private static final int NOT_FOUND = -1000004;
-    private static final int[] WRONG = {-1, Integer.MIN_VALUE, Integer.MAX_VALUE};
-    private static int wrong = 0;
-    private static int asked = 0;
+public final class PromiseTests extends Asking {
+    private static final int[] WRONG = {-1, LEAST, MOST};
 
-    private static void due(String what, int got, int want) {
-        asked++;
-        if (got != want) {
-            wrong++;
-            System.out.println(what + " answered " + got + ", due is " + want);
-        }
-    }
-
-    private static FavourRings bankOf(int pupils) {
-        FavourRings bank = new FavourRings();
-        for (int i = 0; i < pupils; i++) {
-            bank.pupil();
-        }
-        return bank;
-    }
-
-    private static void write(FavourRings bank, String text) {
-        bank.clearText();
-        for (char c : text.toCharArray()) {
-            bank.type(c);
-        }
-    }
-
-    private static void faultDue(FavourRings bank, String text, int place, int reason, int cause) {
-        write(bank, text);
-        due("fault(0) of " + text, bank.fault(0), place);
-        due("fault(1) of " + text, bank.fault(1), reason);
-        due("fault(2) of " + text, bank.fault(2), cause);
+    private static void faultyDue(FavourRings bank, String text, int place, int reason, int cause) {
+        faultDue(bank, text, place, reason, cause);
         int states = bank.count(12);
         due("play() of " + text, bank.play(), NOT_POSSIBLE);
         due("states after a faulty play", bank.count(12), states);
         due("the length stays", bank.count(13), text.length());
-    }
-
-    private static void noFaultDue(FavourRings bank, String text) {
-        write(bank, text);
-        for (int what = 0; what < 3; what++) {
-            due("fault(" + what + ") of " + text, bank.fault(what), NOT_FOUND);
-        }
-    }
-
-    /** 0 owes 1, 1 owes 2, 2 owes 0, each the number told, of kind 0. */
-    private static FavourRings triangle(int a, int b, int c) {
-        FavourRings bank = bankOf(3);
-        bank.lend(0, 1, 0, a);
-        bank.lend(1, 2, 0, b);
-        bank.lend(2, 0, 0, c);
-        return bank;
     }
 
     private static void newObject() {
@@ -800,49 +752,24 @@ public final class PromiseTests {
         FavourRings bank = triangle(3, 2, 4);
         bank.guarantee(0, 2);
         bank.set(5, 9);
-        int[] before = everything(bank);
+        int[] before = recorded(bank);
         bank.clear(0);
         due("undo clear", bank.undo(), 3);
-        same("clear", before, everything(bank));
+        sameDue("undone clear", before, recorded(bank));
         bank.weeks(4);
         bank.undo();
-        same("weeks", before, everything(bank));
+        sameDue("undone weeks", before, recorded(bank));
         bank.holiday(true);
         bank.undo();
-        same("holiday", before, everything(bank));
+        sameDue("undone holiday", before, recorded(bank));
         bank.guarantee(0, 1);
         bank.undo();
-        same("guarantee", before, everything(bank));
+        sameDue("undone guarantee", before, recorded(bank));
         write(bank, "h;w3;c0;g0,1;");
         due("play", bank.play(), 4);
         bank.undo();
         bank.clearText();
-        same("play", before, everything(bank));
-    }
-
-    private static int[] everything(FavourRings bank) {
-        int[] all = new int[200];
-        int end = 0;
-        for (int what = 0; what < 26; what++) {
-            all[end++] = what == 12 ? 0 : bank.count(what);
-        }
-        for (int pupil = 0; pupil < bank.count(1); pupil++) {
-            for (int what = 0; what < 9; what++) {
-                all[end++] = bank.pupilOf(pupil, what);
-            }
-        }
-        for (int place = 0; place < bank.count(2); place++) {
-            for (int what = 0; what < 6; what++) {
-                all[end++] = bank.lot(place, what);
-            }
-        }
-        return all;
-    }
-
-    private static void same(String what, int[] before, int[] after) {
-        for (int i = 0; i < before.length; i++) {
-            due("undone " + what + ", number " + i, after[i], before[i]);
-        }
+        sameDue("undone play", before, recorded(bank));
     }
 
     private static void typing() {
@@ -868,62 +795,62 @@ public final class PromiseTests {
 
     private static void faultsOfForm() {
         FavourRings bank = bankOf(2);
-        faultDue(bank, " ", 0, 1, 0);
-        faultDue(bank, ";", 0, 1, 0);
-        faultDue(bank, "O0,1,0,1;", 0, 1, 0);
-        faultDue(bank, "x;", 0, 1, 0);
-        faultDue(bank, "h", 0, 1, 1);
-        faultDue(bank, "hh;", 0, 1, 1);
-        faultDue(bank, "h1;", 0, 1, 1);
-        faultDue(bank, "w", 0, 1, 1);
-        faultDue(bank, "w;", 0, 1, 1);
-        faultDue(bank, "w1", 0, 1, 2);
-        faultDue(bank, "w12", 0, 1, 3);
-        faultDue(bank, "w123;", 0, 1, 3);
-        faultDue(bank, "w1 ;", 0, 1, 2);
-        faultDue(bank, "w1:", 0, 1, 2);
-        faultDue(bank, "w1/;", 0, 1, 2);
-        faultDue(bank, "w:;", 0, 1, 1);
-        faultDue(bank, "w/;", 0, 1, 1);
-        faultDue(bank, "w-1;", 0, 1, 1);
-        faultDue(bank, "w1,1;", 0, 1, 2);
-        faultDue(bank, "c", 0, 1, 1);
-        faultDue(bank, "c0,", 0, 1, 2);
-        faultDue(bank, "g0;", 0, 1, 2);
-        faultDue(bank, "g0,", 0, 1, 3);
-        faultDue(bank, "g0,;", 0, 1, 3);
-        faultDue(bank, "g,1;", 0, 1, 1);
-        faultDue(bank, "g0,-1;", 0, 1, 3);
-        faultDue(bank, "g0,1,1;", 0, 1, 4);
-        faultDue(bank, "o0,1,0;", 0, 1, 6);
-        faultDue(bank, "o0,1,0,1", 0, 1, 8);
-        faultDue(bank, "o00,01,00,01", 0, 1, 12);
-        faultDue(bank, "o0,1,0,1,", 0, 1, 8);
-        faultDue(bank, "o00,001,", 0, 1, 6);
-        faultDue(bank, "d0,1,0", 0, 1, 6);
-        faultDue(bank, "d0.1", 0, 1, 2);
-        faultDue(bank, "h;h; h;", 4, 1, 0);
-        faultDue(bank, "h;w2;o0,1,0", 5, 1, 6);
-        faultDue(bank, "hw1;", 0, 1, 1);
+        faultyDue(bank, " ", 0, 1, 0);
+        faultyDue(bank, ";", 0, 1, 0);
+        faultyDue(bank, "O0,1,0,1;", 0, 1, 0);
+        faultyDue(bank, "x;", 0, 1, 0);
+        faultyDue(bank, "h", 0, 1, 1);
+        faultyDue(bank, "hh;", 0, 1, 1);
+        faultyDue(bank, "h1;", 0, 1, 1);
+        faultyDue(bank, "w", 0, 1, 1);
+        faultyDue(bank, "w;", 0, 1, 1);
+        faultyDue(bank, "w1", 0, 1, 2);
+        faultyDue(bank, "w12", 0, 1, 3);
+        faultyDue(bank, "w123;", 0, 1, 3);
+        faultyDue(bank, "w1 ;", 0, 1, 2);
+        faultyDue(bank, "w1:", 0, 1, 2);
+        faultyDue(bank, "w1/;", 0, 1, 2);
+        faultyDue(bank, "w:;", 0, 1, 1);
+        faultyDue(bank, "w/;", 0, 1, 1);
+        faultyDue(bank, "w-1;", 0, 1, 1);
+        faultyDue(bank, "w1,1;", 0, 1, 2);
+        faultyDue(bank, "c", 0, 1, 1);
+        faultyDue(bank, "c0,", 0, 1, 2);
+        faultyDue(bank, "g0;", 0, 1, 2);
+        faultyDue(bank, "g0,", 0, 1, 3);
+        faultyDue(bank, "g0,;", 0, 1, 3);
+        faultyDue(bank, "g,1;", 0, 1, 1);
+        faultyDue(bank, "g0,-1;", 0, 1, 3);
+        faultyDue(bank, "g0,1,1;", 0, 1, 4);
+        faultyDue(bank, "o0,1,0;", 0, 1, 6);
+        faultyDue(bank, "o0,1,0,1", 0, 1, 8);
+        faultyDue(bank, "o00,01,00,01", 0, 1, 12);
+        faultyDue(bank, "o0,1,0,1,", 0, 1, 8);
+        faultyDue(bank, "o00,001,", 0, 1, 6);
+        faultyDue(bank, "d0,1,0", 0, 1, 6);
+        faultyDue(bank, "d0.1", 0, 1, 2);
+        faultyDue(bank, "h;h; h;", 4, 1, 0);
+        faultyDue(bank, "h;w2;o0,1,0", 5, 1, 6);
+        faultyDue(bank, "hw1;", 0, 1, 1);
     }
 
     private static void faultsOfState() {
         FavourRings bank = bankOf(3);
-        faultDue(bank, "o0,3,0,1;", 0, 2, INVALID);
-        faultDue(bank, "o0,0,0,1;", 0, 2, INVALID);
-        faultDue(bank, "o0,1,4,1;", 0, 2, INVALID);
-        faultDue(bank, "o0,1,0,10;", 0, 2, INVALID);
-        faultDue(bank, "o0,1,0,00;", 0, 2, INVALID);
-        faultDue(bank, "d0,1,0,1;", 0, 2, NOT_POSSIBLE);
-        faultDue(bank, "g0,0;", 0, 2, INVALID);
-        faultDue(bank, "g0,3;", 0, 2, INVALID);
-        faultDue(bank, "c4;", 0, 2, INVALID);
-        faultDue(bank, "w0;", 0, 2, INVALID);
-        faultDue(bank, "w21;", 0, 2, INVALID);
-        faultDue(bank, "o0,1,0,9;o0,1,0,9;o0,1,0,3;", 18, 2, NOT_POSSIBLE);
-        faultDue(bank, "o0,1,0,2;d0,1,0,2;d0,1,0,1;", 18, 2, NOT_POSSIBLE);
-        faultDue(bank, "o0,1,0,3;w4;o0,1,0,1;", 12, 2, NOT_POSSIBLE);
-        faultDue(bank, "c4;x", 0, 2, INVALID);
+        faultyDue(bank, "o0,3,0,1;", 0, 2, INVALID);
+        faultyDue(bank, "o0,0,0,1;", 0, 2, INVALID);
+        faultyDue(bank, "o0,1,4,1;", 0, 2, INVALID);
+        faultyDue(bank, "o0,1,0,10;", 0, 2, INVALID);
+        faultyDue(bank, "o0,1,0,00;", 0, 2, INVALID);
+        faultyDue(bank, "d0,1,0,1;", 0, 2, NOT_POSSIBLE);
+        faultyDue(bank, "g0,0;", 0, 2, INVALID);
+        faultyDue(bank, "g0,3;", 0, 2, INVALID);
+        faultyDue(bank, "c4;", 0, 2, INVALID);
+        faultyDue(bank, "w0;", 0, 2, INVALID);
+        faultyDue(bank, "w21;", 0, 2, INVALID);
+        faultyDue(bank, "o0,1,0,9;o0,1,0,9;o0,1,0,3;", 18, 2, NOT_POSSIBLE);
+        faultyDue(bank, "o0,1,0,2;d0,1,0,2;d0,1,0,1;", 18, 2, NOT_POSSIBLE);
+        faultyDue(bank, "o0,1,0,3;w4;o0,1,0,1;", 12, 2, NOT_POSSIBLE);
+        faultyDue(bank, "c4;x", 0, 2, INVALID);
         noFaultDue(bank, "");
         noFaultDue(bank, "h;");
         noFaultDue(bank, "o0,1,0,2;d0,1,0,1;d00,01,00,01;");
@@ -942,11 +869,11 @@ public final class PromiseTests {
         for (int i = 0; i < 49; i++) {
             bank.weeks(20);
         }
-        faultDue(bank, "w19;w1;", 4, 2, LIMIT);
+        faultyDue(bank, "w19;w1;", 4, 2, LIMIT);
         for (int i = 0; i < 39; i++) {
             bank.lend(i < 20 ? 0 : 1, 2, 0, 1);
         }
-        faultDue(bank, "o1,0,0,1;o2,0,0,1;", 9, 2, LIMIT);
+        faultyDue(bank, "o1,0,0,1;o2,0,0,1;", 9, 2, LIMIT);
         noFaultDue(bank, "o1,0,0,1;d0,2,0,1;o2,0,0,1;");
         due("play", bank.play(), 3);
     }
@@ -1036,9 +963,6 @@ public final class PromiseTests {
         faultsOfLimits();
         playing();
         thirtyOrders();
-        System.out.println(wrong == 0 ? asked + " answers are as due" : wrong + " answers are not as due");
-        if (wrong != 0) {
-            System.exit(1);
-        }
+        end();
     }
 }
