@@ -6,6 +6,8 @@ import java.nio.file.Files;
 import java.nio.file.Path;
 import java.util.ArrayList;
 import java.util.List;
+import java.util.Map;
+import java.util.TreeMap;
 import java.util.TreeSet;
 import java.util.regex.Matcher;
 import java.util.regex.Pattern;
@@ -150,6 +152,52 @@ public final class LanguageTests {
         mustBe(starts.size() > 50, "methods were found");
     }
 
+    /** Methods by their names, whichever class they stand in: a call of a name is taken for a call of all of it. */
+    private static Map<String, String> bodies(String code) {
+        Map<String, String> bodies = new TreeMap<>();
+        Matcher method = Pattern.compile(
+            "(?ms)^( +)(?! )(?:[\\w\\[\\]]+ )*(\\w+)\\([^)]*\\) \\{\\n(.*?)\\n\\1\\}").matcher(code);
+        while (method.find()) {
+            bodies.merge(method.group(2), method.group(3), String::concat);
+        }
+        return bodies;
+    }
+
+    private static int depth(Map<String, String> bodies, String name, int open) {
+        if (open > 20) {
+            return 1;
+        }
+        int deepest = 0;
+        Matcher call = Pattern.compile("\\b(\\w+)\\(").matcher(bodies.get(name));
+        while (call.find()) {
+            if (bodies.containsKey(call.group(1))) {
+                deepest = Math.max(deepest, depth(bodies, call.group(1), open + 1));
+            }
+        }
+        return 1 + deepest;
+    }
+
+    private static void depths(String code) {
+        Map<String, String> bodies = bodies(code);
+        mustBe(bodies.size() > 80, "methods were found by name: " + bodies.size());
+        for (String name : bodies.keySet()) {
+            int depth = depth(bodies, name, 1);
+            mustBe(depth <= 8, name + " calls at most eight deep, not " + depth);
+        }
+    }
+
+    private static void fields() {
+        List<Class<?>> classes = new ArrayList<>(List.of(FavourRings.class.getDeclaredClasses()));
+        classes.add(FavourRings.class);
+        for (Class<?> one : classes) {
+            int fields = 0;
+            for (Field field : one.getDeclaredFields()) {
+                fields += Modifier.isStatic(field.getModifiers()) ? 0 : 1;
+            }
+            mustBe(fields <= 20, one + " has some twenty fields");
+        }
+    }
+
     public static void main(String[] args) throws java.io.IOException {
         String text = Files.readString(Path.of("src/main/java/FavourRings.java"));
         face();
@@ -157,6 +205,8 @@ public final class LanguageTests {
         room(code(text));
         indices(code(text));
         lengths(text);
+        depths(code(text));
+        fields();
         System.out.println(wrong == 0 ? "the face and the text are as due" : wrong + " things are not so");
         if (wrong != 0) {
             System.exit(1);

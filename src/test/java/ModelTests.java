@@ -1,17 +1,22 @@
 import java.util.ArrayList;
 import java.util.List;
+import java.util.function.IntSupplier;
 import java.util.regex.Matcher;
 import java.util.regex.Pattern;
+import java.util.stream.IntStream;
 
 /**
  * Long runs of calls, each answer compared with a second model, which searches plainly and keeps copies.
- * A run makes more than 512 calls of one object: FavourRings has no end of its own there.
+ * A run is of one object, and ends with its 512th call: what later calls answer is free.
  */
 public final class ModelTests {
     private static final int INVALID = -1000001;
     private static final int NOT_POSSIBLE = -1000002;
     private static final int LIMIT = -1000003;
     private static final int NOT_FOUND = -1000004;
+    private static final int CALLS = 512;
+    /** As many calls as a step can make: a text typed anew, its faults, play, and the questions behind it. */
+    private static final int STEP = 150;
 
     private static final class Lot {
         int debtor, creditor, kind, many, age, taken;
@@ -498,14 +503,22 @@ public final class ModelTests {
     private final Model model = new Model();
     /** In such a run most pupils owe one another onwards only, so that long rings come, and many as short. */
     private final boolean isRound;
+    /** In such a run most calls lend, so that there are 40 lots. */
+    private final boolean isFull;
+    /** Such a run begins with so many weeks that their bound comes near. */
+    private final boolean isLate;
     private final int stride;
     private final int reach;
+    private int calls = 0;
+    private int odds = 1;
     private boolean isWrong = false;
 
     private ModelTests(int run) {
         this.run = run;
         seed = run * 7919L + 17;
         isRound = run % 3 == 1;
+        isFull = run % 5 == 2;
+        isLate = run % 11 == 5;
         stride = 2 * dice(4) + 1;
         reach = 1 + dice(4);
     }
@@ -535,7 +548,9 @@ public final class ModelTests {
         return number(0, Math.max(0, model.state.pupils - 1));
     }
 
+    /** Told behind each call of the object, so that it counts them. */
     private void due(String call, int got, int want) {
+        calls++;
         told.add(call + " = " + got);
         if (got != want && !isWrong) {
             isWrong = true;
@@ -543,9 +558,16 @@ public final class ModelTests {
         }
     }
 
+    /** One question of as many as the odds tell is asked, so that the calls last. */
+    private void ask(String call, IntSupplier got, IntSupplier want) {
+        if (calls < CALLS && dice(odds) == 0) {
+            due(call, got.getAsInt(), want.getAsInt());
+        }
+    }
+
     private void change() {
         State before = model.state.copy();
-        int luck = dice(100);
+        int luck = isFull && dice(5) > 0 ? dice(45) : dice(100);
         int a = pupil();
         int b = pupil();
         int kind = dice(3) > 0 ? run % 4 : number(0, 3);
@@ -613,7 +635,7 @@ public final class ModelTests {
         if (dice(3) > 0) {
             due("clearText", real.clearText(), model.clearText());
         }
-        for (int i = dice(7); i >= 0; i--) {
+        for (int i = dice(isFull ? 2 : 7); i >= 0; i--) {
             for (char c : anOrder().toCharArray()) {
                 due("type " + c, real.type(c), model.type(c));
             }
@@ -628,85 +650,134 @@ public final class ModelTests {
         due("play " + model.text, real.play(), model.play());
     }
 
-    private void askAll() {
+    private void askSome(int ofSoMany) {
+        odds = ofSoMany;
         State s = model.state;
-        for (int what = -1; what <= 27; what++) {
-            due("count " + what, real.count(what), model.count(what));
-        }
-        for (int p = -1; p <= s.pupils; p++) {
-            for (int what = -1; what <= 9; what++) {
-                due("pupilOf " + p + " " + what, real.pupilOf(p, what), s.pupilOf(p, what));
-            }
-            due("spoilsIn " + p, real.spoilsIn(p), s.spoilsIn(p));
-            due("richest " + p, real.richest(p), s.richest(p));
-        }
-        for (int place = -1; place <= s.lots.size(); place++) {
-            for (int what = -1; what <= 6; what++) {
-                due("lot " + place + " " + what, real.lot(place, what), s.lot(place, what));
-            }
-        }
-        for (int kind = 0; kind < 4; kind++) {
-            askKind(s, kind);
-        }
-        due("mean", real.mean(), s.mean());
+        IntStream.rangeClosed(-1, 27).forEach(what ->
+            ask("count " + what, () -> real.count(what), () -> model.count(what)));
+        IntStream.rangeClosed(-1, s.pupils).forEach(pupil -> askPupil(s, pupil));
+        IntStream.rangeClosed(-1, s.lots.size()).forEach(place ->
+            IntStream.rangeClosed(-1, 6).forEach(what ->
+                ask("lot " + place + " " + what, () -> real.lot(place, what), () -> s.lot(place, what))));
+        IntStream.rangeClosed(-1, 4).forEach(kind -> askKind(s, kind));
+        ask("mean", real::mean, s::mean);
+    }
+
+    private void askPupil(State s, int pupil) {
+        IntStream.rangeClosed(-1, 9).forEach(what ->
+            ask("pupilOf " + pupil + " " + what, () -> real.pupilOf(pupil, what), () -> s.pupilOf(pupil, what)));
+        IntStream.rangeClosed(0, 10).forEach(many ->
+            ask("why " + pupil + " " + many, () -> real.why(pupil, many),
+                () -> !s.is(pupil) || many < 1 || many > 9 ? INVALID : s.why(pupil, many)));
+        ask("spoilsIn " + pupil, () -> real.spoilsIn(pupil), () -> s.spoilsIn(pupil));
+        ask("richest " + pupil, () -> real.richest(pupil), () -> s.richest(pupil));
     }
 
     private void askKind(State s, int kind) {
-        List<Integer> ring = s.ring(kind);
-        for (int place = 0; place <= (ring == null ? 0 : ring.size()); place++) {
-            due("ring " + kind + " " + place, real.ring(kind, place),
-                ring == null || place >= ring.size() ? NOT_FOUND : ring.get(place));
-        }
-        due("amount " + kind, real.amount(kind), ring == null ? NOT_FOUND : s.amount(ring, kind));
-        due("deepest " + kind, real.deepest(kind), s.deepest(kind));
-        State c = s.copy();
-        due("ifCleared " + kind + " 0", real.ifCleared(kind, 0), c.clear(kind));
-        due("ifCleared " + kind + " 1", real.ifCleared(kind, 1), c.rings - s.rings);
-        due("ifCleared " + kind + " 2", real.ifCleared(kind, 2), c.lots.size());
-        for (int a = 0; a < s.pupils; a++) {
-            for (int b = 0; b < s.pupils; b++) {
-                due("owes " + a + " " + b + " " + kind, real.owes(a, b, kind), s.owes(a, b, kind));
-                due("chain " + a + " " + b + " " + kind, real.chain(a, b, kind), s.chain(a, b, kind));
-            }
-        }
+        IntStream.rangeClosed(-1, 8).forEach(place ->
+            ask("ring " + kind + " " + place, () -> real.ring(kind, place), () -> ring(s, kind, place)));
+        ask("amount " + kind, () -> real.amount(kind), () -> amount(s, kind));
+        ask("deepest " + kind, () -> real.deepest(kind), () -> s.deepest(kind));
+        IntStream.rangeClosed(-1, 3).forEach(what ->
+            ask("ifCleared " + kind + " " + what, () -> real.ifCleared(kind, what), () -> ifCleared(s, kind, what)));
+        IntStream.range(0, s.pupils).forEach(a ->
+            IntStream.range(0, s.pupils).forEach(b -> askPair(s, a, b, kind)));
     }
 
+    private void askPair(State s, int a, int b, int kind) {
+        ask("owes " + a + " " + b + " " + kind, () -> real.owes(a, b, kind),
+            () -> isKind(kind) && s.is(a) && s.is(b) ? s.owes(a, b, kind) : INVALID);
+        ask("chain " + a + " " + b + " " + kind, () -> real.chain(a, b, kind), () -> s.chain(a, b, kind));
+    }
+
+    private static boolean isKind(int kind) {
+        return kind >= 0 && kind <= 3;
+    }
+
+    private static int ring(State s, int kind, int place) {
+        if (!isKind(kind) || place < 0) {
+            return INVALID;
+        }
+        List<Integer> ring = s.ring(kind);
+        return ring == null || place >= ring.size() ? NOT_FOUND : ring.get(place);
+    }
+
+    private static int amount(State s, int kind) {
+        if (!isKind(kind)) {
+            return INVALID;
+        }
+        List<Integer> ring = s.ring(kind);
+        return ring == null ? NOT_FOUND : s.amount(ring, kind);
+    }
+
+    private static int ifCleared(State s, int kind, int what) {
+        if (!isKind(kind) || what < 0 || what > 2) {
+            return INVALID;
+        }
+        State c = s.copy();
+        return new int[] {c.clear(kind), c.rings - s.rings, c.lots.size()}[what];
+    }
+
+    /** A question with an argument that may be far outside. */
     private void askOne() {
+        odds = 1;
+        State s = model.state;
         int a = pupil();
         int b = pupil();
-        int kind = number(0, 3);
-        int many = number(1, 9);
-        if (kind < 0 || kind > 3 || !model.state.is(a) || !model.state.is(b)) {
-            due("owes " + a + " " + b + " " + kind, real.owes(a, b, kind), INVALID);
+        int kind = dice(3) > 0 ? run % 4 : number(0, 3);
+        int what = number(0, 8);
+        switch (dice(6)) {
+            case 0:
+                askPair(s, a, b, kind);
+                break;
+            case 1:
+                ask("ring " + kind + " " + what, () -> real.ring(kind, what), () -> ring(s, kind, what));
+                ask("amount " + kind, () -> real.amount(kind), () -> amount(s, kind));
+                break;
+            case 2:
+                ask("ifCleared " + kind + " " + what / 2, () -> real.ifCleared(kind, what / 2),
+                    () -> ifCleared(s, kind, what / 2));
+                ask("deepest " + kind, () -> real.deepest(kind), () -> s.deepest(kind));
+                break;
+            case 3:
+                ask("pupilOf " + a + " " + what, () -> real.pupilOf(a, what), () -> s.pupilOf(a, what));
+                break;
+            case 4:
+                ask("spoilsIn " + a, () -> real.spoilsIn(a), () -> s.spoilsIn(a));
+                break;
+            default:
+                ask("richest " + a, () -> real.richest(a), () -> s.richest(a));
+                ask("mean", real::mean, s::mean);
         }
-        due("chain " + a + " " + b + " " + kind, real.chain(a, b, kind), model.state.chain(a, b, kind));
-        due("why " + a + " " + many, real.why(a, many),
-            !model.state.is(a) || many < 1 || many > 9 ? INVALID : model.state.why(a, many));
-        due("deepest " + kind, real.deepest(kind), model.state.deepest(kind));
-        due("spoilsIn " + a, real.spoilsIn(a), model.state.spoilsIn(a));
-        due("richest " + a, real.richest(a), model.state.richest(a));
     }
 
     private boolean isRight() {
-        for (int i = isRound ? 8 : run % 9; i > 0; i--) {
+        for (int i = isRound || isFull ? 8 : run % 9; i > 0; i--) {
             addPupil();
         }
-        for (int step = 0; step < 120 && !isWrong; step++) {
-            if (dice(12) == 0) {
+        for (int weeks = isLate ? 49 : 0; weeks > 0; weeks--) {
+            State before = model.state.copy();
+            due("weeks 20", real.weeks(20), model.change(model.state.weeks(20), before));
+        }
+        for (int step = 0; calls <= CALLS - STEP && !isWrong; step++) {
+            if (dice(isFull ? 40 : 14) == 0) {
                 text();
             } else {
                 change();
             }
-            askOne();
+            if (dice(isFull ? 4 : 2) == 0) {
+                askOne();
+            }
             if (step % 10 == 9) {
-                askAll();
+                askSome(isFull ? 150 : 60);
             }
         }
-        return !isWrong;
+        askSome(10);
+        return !isWrong && calls <= CALLS;
     }
 
     public static void main(String[] args) {
-        int runs = args.length > 0 ? Integer.parseInt(args[0]) : 1500;
+        int runs = args.length > 0 ? Integer.parseInt(args[0]) : 4000;
         int bad = 0;
         for (int run = 0; run < runs && bad < 5; run++) {
             bad += new ModelTests(run).isRight() ? 0 : 1;
