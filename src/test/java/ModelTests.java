@@ -600,7 +600,9 @@ public final class ModelTests {
             int value = what == 4 ? number(30, 99) : what == 5 && dice(4) > 0 ? 20 : number(1, 20);
             due("set " + what + " " + value, real.set(what, value), model.change(model.state.set(what, value), before));
         } else if (luck < 97) {
-            due("undo", real.undo(), model.undo());
+            for (int times = dice(4) == 0 ? 5 : 1; times > 0; times--) {
+                due("undo", real.undo(), model.undo());
+            }
         } else {
             addPupil();
         }
@@ -646,6 +648,10 @@ public final class ModelTests {
         }
         for (int what = 0; what < 3; what++) {
             due("fault " + what + " of " + model.text, real.fault(what), model.fault(what));
+        }
+        if (dice(6) == 0) {
+            int wrong = dice(2) == 0 ? -1 : 3;
+            due("fault " + wrong + " of " + model.text, real.fault(wrong), model.fault(wrong));
         }
         due("play " + model.text, real.play(), model.play());
     }
